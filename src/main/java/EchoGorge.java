@@ -52,7 +52,6 @@ public final class EchoGorge {
     private final Claps claps = new Claps();
 
     public EchoGorge() {
-        verses.adopt(now);
     }
 
     public int feed(int a, int b, int c, int d, int e) {
@@ -1103,7 +1102,8 @@ public final class EchoGorge {
         private static final int LASTS = 5;
         private static final int UNKNOWN = -2;
 
-        private Gorge gorge;
+        /** Empty, as a new object's is, until the first text is adopted. */
+        private Gorge gorge = new Gorge();
         int total;
         int beginnings;
         private int lengths;
@@ -1120,6 +1120,10 @@ public final class EchoGorge {
         private final int[] heard = new int[LONGEST];
         private int heardLength;
         private final int[] fits = new int[MOST_WORDS];
+
+        Verses() {
+            Arrays.fill(figures, UNKNOWN);
+        }
 
         void adopt(Gorge newGorge) {
             gorge = newGorge;
