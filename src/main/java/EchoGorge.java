@@ -947,12 +947,13 @@ public final class EchoGorge {
             if (at < many && later[at] == ticks) {
                 return at;
             }
-            System.arraycopy(later, at, later, at + 1, many - at);
-            int row = at * MOST_SOUNDS;
-            System.arraycopy(loud, row, loud, row + MOST_SOUNDS, (many - at) * MOST_SOUNDS);
+            for (int way = many; way > at; way--) {
+                later[way] = later[way - 1];
+                System.arraycopy(loud, (way - 1) * MOST_SOUNDS, loud, way * MOST_SOUNDS, MOST_SOUNDS);
+            }
             later[at] = ticks;
             for (int sound = 0; sound < MOST_SOUNDS; sound++) {
-                loud[row + sound] = 0;
+                loud[at * MOST_SOUNDS + sound] = 0;
             }
             many++;
             return at;

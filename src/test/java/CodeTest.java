@@ -8,6 +8,7 @@ public final class CodeTest {
         noReturns();
         oneWall();
         severalReturns();
+        likeCodes();
         masked();
         wrongInputs();
         CHECK.end();
@@ -53,6 +54,17 @@ public final class CodeTest {
         // 2 7 12 17, 3 8 13, 4 9 14, 6 11 16: one of each, the least
         CHECK.due("how many", x.code(0, 0), 4);
         CHECK.due("bits", x.code(0, 1), 1 | 1 << 1 | 1 << 2 | 1 << 4);
+    }
+
+    private static void likeCodes() {
+        EchoGorge x = Check.made("sound 50 0;wall 3 9 9 100;wall 10 9 9 100;");
+        // 2 4 6 8 13 15 17 and 2 6 7 8 13 14 15 have one sum, the latter has less bits
+        CHECK.due("how many", x.code(0, 0), 7);
+        CHECK.due("the least bits", x.code(0, 1), 1 | 1 << 4 | 1 << 5 | 1 << 6 | 1 << 11 | 1 << 12 | 1 << 13);
+        EchoGorge y = Check.made("sound 50 0;wall 5 9 9 100;wall 12 9 9 100;");
+        // 2 3 6 9 10 13 16 17 has a greater sum than 3 4 6 7 10 13 14 17
+        CHECK.due("as many", y.code(0, 0), 8);
+        CHECK.due("the least sum", y.code(0, 1), 2 | 4 | 16 | 32 | 1 << 8 | 1 << 11 | 1 << 12 | 1 << 15);
     }
 
     private static void masked() {

@@ -7,6 +7,9 @@ public final class LinesTest {
     public static void main(String[] args) {
         echoes();
         echoedButNoAnswer();
+        echoedByTheLastWord();
+        wordsOfItsKinds();
+        maskedByTheLine();
         answersByAnotherForm();
         kindsWithoutWords();
         plainest();
@@ -53,6 +56,31 @@ public final class LinesTest {
         CHECK.dueThrow("no plainest line", NoSuchElementException.class, () -> x.line(12, -1, 0));
         EchoGorge y = Check.made("sound 50 0;word 0 0;form 0;");
         CHECK.due("no wall, no return", y.lines(12, 0) + y.lines(12, 1), 0);
+    }
+
+    private static void echoedByTheLastWord() {
+        String text = "sound 50 0;sound 50 1;wall 5 1 1 100 swallows 0;word 0 0;word 1 1;";
+        CHECK.due("the last word comes back", Check.made(text + "form 0 1;").lines(12, 1), 1);
+        CHECK.due("the first one comes back", Check.made(text + "form 1 0;").lines(12, 1), 0);
+        CHECK.due("the middle one comes back", Check.made(text + "form 0 1 0;").lines(12, 1), 0);
+        CHECK.due("the last of three", Check.made(text + "form 0 0 1;").lines(12, 1), 1);
+    }
+
+    /** A return that is no line, though words of other kinds or of an older gorge would make it one. */
+    private static void wordsOfItsKinds() {
+        EchoGorge x = Check.made("sound 50 0;sound 50 1;wall 5 1 1 100 swallows 1;word 0 0;word 1 1 0;word 1 1;form 1;");
+        CHECK.due("a word of another kind", x.lines(12, 0), 0);
+        EchoGorge y = Check.made("sound 50 0;sound 50 1;word 1 0;form 1;form 1;");
+        Check.gorge(y, "sound 50 0;sound 50 1;word 1 0;form 1;form 1;");
+        Check.gorge(y, "sound 50 0;sound 50 1;wall 5 1 1 100 swallows 1;word 0 1 0;word 1 0;word 0 1;form 0;");
+        CHECK.due("a form of an older gorge", y.lines(12, 0), 0);
+    }
+
+    private static void maskedByTheLine() {
+        EchoGorge x = Check.made("sound 50 0;wall 1 1 1 50;mask 1 1 0;word 0 0;form 0;");
+        x.heard(0, 12, 0);
+        CHECK.due("the line itself masks its return", x.lines(12, 0), 0);
+        CHECK.due("not beyond the window", Check.made("sound 50 0;wall 2 1 1 50;mask 1 1 0;word 0 0;form 0;").lines(12, 0), 1);
     }
 
     private static void answersByAnotherForm() {
@@ -109,6 +137,9 @@ public final class LinesTest {
         CHECK.due("lasts of like air", x.lasts(5), 0);
         CHECK.due("lasts at noon", x.lasts(12), 60);
         CHECK.due("lasts of none", x.lasts(3), EchoGorge.NONE);
+        EchoGorge y = Check.made("sound 50 0;wall 1 1 1 50;air 0 0;word 0 0;form 0;");
+        CHECK.due("hour 0 has no air", y.lines(0, 0), 0);
+        CHECK.due("hour 1 has", y.lines(1, 0), 1);
     }
 
     private static void fog() {
@@ -129,6 +160,11 @@ public final class LinesTest {
         EchoGorge y = Check.made("sound 99 0;wall 1 1 1 100;word 0 0;form 0;");
         // a share of 2 leaves 1, of 1 nothing
         CHECK.due("lasts nearly to the end", y.lasts(0), 98);
+        EchoGorge z = Check.made("sound 99 0;wall 1 1 1 100;mask 98 0 0;word 0 0;form 0;");
+        // 99 by 99 is 98, 99 by 98 is 97
+        CHECK.due("lasts hardly", z.lasts(0), 1);
+        EchoGorge w = Check.made("sound 99 0;wall 1 1 1 100;mask 99 0 0;word 0 0;form 0;");
+        CHECK.due("lasts not at all", w.lasts(0), 0);
     }
 
     private static void answersNowAlone() {
@@ -148,6 +184,8 @@ public final class LinesTest {
         CHECK.due("without wall 1", x.without(12, 1), 1);
         CHECK.due("without a wall that returns nothing", x.without(12, 2), 2);
         CHECK.due("all stand still", x.still(12, 0), 2);
+        EchoGorge y = Check.made("sound 99 0;wall 1 2 2 100;wall 9 2 2 1;mask 99 0 0;word 0 0;form 0;");
+        CHECK.due("without one the others are as they were", y.without(12, 1), 1);
         CHECK.dueThrow("no wall 3", NoSuchElementException.class, () -> x.without(12, 3));
         CHECK.dueThrow("no wall -1", NoSuchElementException.class, () -> x.without(12, -1));
         CHECK.dueThrow("hour 24", NoSuchElementException.class, () -> x.without(24, 0));

@@ -146,6 +146,10 @@ public final class TextTest {
         text("Sound 5 0;", 1, 0);
         text("sounds 5 0;", 1, 0);
         text("soun d 5 0;", 1, 0);
+        text("bound 5 0;", 1, 0);
+        text("soune 5 0;", 1, 0);
+        text("wallz 1 1 1 1;", 1, 0);
+        text("awall 1 1 1 1;", 1, 0);
         text("sound\t5 0;", 1, 5);
         text("sound 5\r0;", 1, 7);
         text("sound 5 0;\0", 1, 10);

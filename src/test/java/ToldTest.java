@@ -77,6 +77,10 @@ public final class ToldTest {
         due("two walls", x, 50, 1, bits, bits, bits, 0, 1);
         tellAt(x, 0, 5, 6, 7, 8);
         due("three walls", x, 50, 1, 7, 7, 7, 0, 1);
+        tellAt(x, 0, 5, 8, 12, 25);
+        bits = 1 << 2 | 1 << 6 | 1 << 19;
+        due("three walls apart", x, 50, 1, bits, bits, bits, 0, 1);
+        due("another share", x, 60, 1, bits, bits, bits, 0, 1);
         tellAt(x, 0, 5, 6, 7, 8, 9);
         due("four walls are too many", x, 50, 0, 0, 0, EchoGorge.NONE, EchoGorge.NONE, 0);
         tellAt(x, 0, 5, 26);
@@ -137,6 +141,15 @@ public final class ToldTest {
         CHECK.due("surely", x.rivals(50, 1), pair);
         CHECK.due("the first has fewest walls", x.rivals(50, 3), pair);
         CHECK.due("possibly", x.rivals(50, 2), (1 << 20) - 1 & ~(1 << 8 | 1 << 11));
+        // 30 alone is not heard, at 20 with 15 more it is: by 16 from tick 4 or by 10 from tick 10
+        EchoGorge y = Check.made("sound 30 0;mask 40 0 0;");
+        y.say(0, 4);
+        y.say(0, 10);
+        y.say(0, 20);
+        tellAt(y, 0, 20);
+        CHECK.due("of like ones the least bits", y.rivals(50, 3), 1 << 9);
+        CHECK.due("either", y.rivals(50, 1), 0);
+        CHECK.due("6 would be heard at 10", y.rivals(50, 2) & 1 << 5, 0);
     }
 
     private static void rivalsByNoon() {
@@ -206,6 +219,9 @@ public final class ToldTest {
         dueSayers("with 1 or without", x, 2, 2, 5);
         tellAt(x, 0, 3, 4, 5, 6, 7);
         dueSayers("the first such tick is bit 0", x, 2, 2, 5);
+        EchoGorge w = Check.made("sound 50 0;wall 1 9 9 100;");
+        tellAt(w, 0, 0, 1, 2, 3, 4);
+        dueSayers("0 1 3, 0 2 3 and 0 1 2 3", w, 3, 3, 1 | 2 | 8);
         // 0, or 0 and 1, or all three: what is louder masks the returns behind tick 2
         EchoGorge y = Check.made("sound 50 0;wall 1 9 9 100;wall 2 9 9 100;mask 1 1 0;");
         tellAt(y, 0, 0, 1, 2);
@@ -213,6 +229,11 @@ public final class ToldTest {
         EchoGorge z = Check.made("sound 50 0;wall 1 9 9 50;air 12 0;");
         tellAt(z, 0, 0, 1);
         dueSayers("no air at noon", z, 1, 2, 3);
+        EchoGorge v = Check.made("sound 50 0;sound 99 0;mask 1 3 0;");
+        v.say(1, 0);
+        CHECK.due("heard ahead of it", v.heard(0, 12, 0), 1);
+        tellAt(v, 0, 1);
+        dueSayers("what was heard otherwise masks nothing", v, 1, 1, 1);
     }
 
     private static void fourteenSayers() {
