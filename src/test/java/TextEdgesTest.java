@@ -24,6 +24,8 @@ public final class TextEdgesTest {
         "word 0 0 0 0 #;"};
 
     public static void main(String[] args) {
+        newObject();
+        lastCalls();
         numbers();
         soundsToldAhead();
         digits();
@@ -46,6 +48,60 @@ public final class TextEdgesTest {
         wordEdges();
         allAnew();
         CHECK.end();
+    }
+
+    /** No SOUNDS, no WALLS, and nothing else. */
+    private static void newObject() {
+        EchoGorge x = new EchoGorge();
+        for (int what = 0; what <= 10; what++) {
+            CHECK.due("new count(" + what + ")", x.count(what), 0);
+        }
+        CHECK.due("new fault", x.fault(), EchoGorge.NONE);
+        CHECK.dueThrow("new wall", NoSuchElementException.class, () -> x.wall(0, 0));
+        CHECK.dueThrow("new word", NoSuchElementException.class, () -> x.word(0, 0));
+        CHECK.dueThrow("new say", NoSuchElementException.class, () -> x.say(0, 0));
+        CHECK.dueThrow("new loud", NoSuchElementException.class, () -> x.loud(0, 0, 0, 0));
+        CHECK.dueThrow("new line", NoSuchElementException.class, () -> x.line(0, EchoGorge.NONE, 0));
+        CHECK.dueThrow("new without", NoSuchElementException.class, () -> x.without(0, 0));
+        CHECK.dueThrow("new sing", NoSuchElementException.class, () -> x.sing(0, 0));
+        CHECK.dueThrow("new tell", NoSuchElementException.class, () -> x.tell(0));
+        CHECK.dueThrow("new code", NoSuchElementException.class, () -> x.code(0, 0));
+        CHECK.dueThrow("new gorge", IllegalArgumentException.class, () -> x.gorge(1));
+        int[] lines = {0, 0, EchoGorge.NONE, 0, 0};
+        int[] rivals = {1351, 0, (1 << 20) - 1, 0, EchoGorge.NONE, 0};
+        int[] sayers = {1, 0, 0};
+        for (int what = 0; what < 6; what++) {
+            CHECK.due("new lines(0, " + what % 5 + ")", x.lines(0, what % 5), lines[what % 5]);
+            CHECK.due("new rivals(1, " + what + ")", x.rivals(1, what), rivals[what]);
+            CHECK.due("new sayers(" + what % 3 + ")", x.sayers(what % 3), sayers[what % 3]);
+            CHECK.due("new round(" + what % 3 + ")", x.round(what % 3), 0);
+        }
+        CHECK.due("new heard", x.heard(0, 0, 0), EchoGorge.NONE);
+        CHECK.due("new still", x.still(0, 0), 0);
+        CHECK.due("new lasts", x.lasts(0), EchoGorge.NONE);
+        CHECK.due("new hush and untell", x.hush() + x.untell(), 0);
+        CHECK.due("new matching", x.matching(0, 0, EchoGorge.NONE), 961);
+        CHECK.due("new moved", x.moved(0, 0, 0, 0, 0), 961);
+        CHECK.due("new restore", x.restore(), false);
+        CHECK.due("new sing of a rest", x.sing(0, EchoGorge.NONE), 1);
+        CHECK.due("new tell of nothing", x.tell(EchoGorge.NONE), 1);
+        CHECK.due("new feed", x.feed(0, 0, 0, 0, 0), 20);
+    }
+
+    /** The 512th call is promised as much as the first. */
+    private static void lastCalls() {
+        EchoGorge x = new EchoGorge();
+        CHECK.due("the first call", x.feed(0x736f756e, 0x64203132, 0x20333b20, 0x20202020, 0x20202020), 20);
+        CHECK.due("the second", x.gorge(20), 0);
+        for (int call = 3; call < 508; call++) {
+            CHECK.due("call " + call, call < 203 ? x.say(0, call - 3) : x.heard(0, 12, 200 - call % 2), call < 203 ? call - 2
+                    : call % 2 == 1 ? 0 : EchoGorge.NONE);
+        }
+        CHECK.due("the 508th", x.say(0, 0), EchoGorge.NONE);
+        CHECK.due("the 509th", x.count(8), 1);
+        CHECK.due("the 510th", x.hush(), 200);
+        CHECK.due("the 511th", x.rivals(100, 0), 1351);
+        CHECK.due("the 512th", x.say(0, 199), 1);
     }
 
     /** A text, its fault (0: none) and the place of it. */
