@@ -29,6 +29,8 @@ public final class LinesEdgesTest {
         fogOnBothSides();
         fogThatHelps();
         lastsEdges();
+        lastsTogether();
+        lastsOfMostWays();
         withoutEdges();
         earZeroAlone();
         nothingElseSaid();
@@ -102,6 +104,10 @@ public final class LinesEdgesTest {
 
     /** The longest line has 3 words of 4 sounds. */
     private static void longestReturn() {
+        // eight words of the last kind
+        EchoGorge u = Check.made("sound 50 0;wall 12 1 1 100;" + "word 3 0;".repeat(8) + "form 3;form 3 3 3;");
+        lines("all of the last kind", u, 12, 520, 8, 1, 0, 16);
+        CHECK.due("the last word of the last line", u.line(12, 519, 3), 7);
         String words = "word 0 0 0 0 0;form 0 0 0;";
         EchoGorge x = Check.made("sound 50 0;wall 12 1 1 100;" + words);
         lines("twelve come back", x, 12, 1, 0, 12, 0, 1);
@@ -142,6 +148,9 @@ public final class LinesEdgesTest {
         // the sounds of a word that no form has are no line
         EchoGorge w = Check.made("sound 50 0;sound 50 1;wall 3 1 1 100 swallows 1;word 0 0 1;word 1 0;form 0;");
         lines("a word without a form", w, 12, 0, 0, NONE, 1, 1);
+        // a form's later words alone are no line of it, though as long as one: 0 1 gives back 1 1
+        EchoGorge u = Check.made("sound 50 0;sound 50 1;wall 9 1 1 100 swallows 0;word 0 0;word 1 1;word 1 1 1;form 0 1;");
+        lines("later words alone", u, 12, 0, 2, NONE, 1, 1);
         // a return may be a line whose words are cut otherwise
         EchoGorge v = Check.made("sound 50 0;sound 50 1;wall 3 1 1 100;word 0 0;word 1 1 0;word 2 0 1;word 3 0;form 0 1;form 2 3;");
         lines("cut otherwise", v, 12, 2, 0, 3, 0, 2);
@@ -481,6 +490,42 @@ public final class LinesEdgesTest {
         // and so does one that comes by several walls at one tick: 9 by each of two in a fog of 80
         EchoGorge t = Check.made("sound 90 0;wall 1 1 1 50;wall 1 1 1 50;mask 18 0 0;word 0 0;form 0;");
         CHECK.due("together", t.lasts(12), 80);
+    }
+
+    /** Two walls of one delay: none of their returns is loud enough, nor is the sound itself, but both together are. */
+    private static void lastsTogether() {
+        String walls = "wall 1 9 9 100 swallows 1;wall 1 9 9 100 swallows 1;";
+        // 50 by 99 and by 98 is 49, by 97 is 48
+        EchoGorge x = Check.made("sound 50 0;" + walls + "mask 99 0 0;word 0 0;form 0;");
+        lines("50 and 50", x, 12, 1, 1, 1, 0, 1);
+        CHECK.due("still", x.still(12, 1), 0);
+        CHECK.due("not in any fog", x.lasts(12), 0);
+        EchoGorge y = Check.made("sound 50 0;" + walls + "mask 98 0 0;word 0 0;form 0;");
+        CHECK.due("49 and 49", y.lasts(12), 2);
+        CHECK.due("still in a fog of 2, not of 3", y.still(12, 2) * 10 + y.still(12, 3), 10);
+        // the second sound, the first one being swallowed
+        EchoGorge z = Check.made("sound 50 1;sound 50 0;" + walls + "mask 98 0 0;word 0 1;form 0;");
+        CHECK.due("of the second sound", z.lasts(12), 2);
+        EchoGorge w = Check.made("sound 50 1;".repeat(7) + "sound 50 0;" + walls + "mask 98 0 0;word 0 7;form 0;");
+        CHECK.due("of the eighth sound", w.lasts(12), 2);
+    }
+
+    /** Six walls, 18 returns each at a tick of its own: of the one sound comes that eighteen times, which is no line. */
+    private static void lastsOfMostWays() {
+        StringBuilder walls = new StringBuilder();
+        for (int delay : new int[] {37, 38, 39, 40, 31, 29}) {
+            walls.append("wall ").append(delay).append(" 9 9 50 again 3;");
+        }
+        // by 50 of 90 comes 45, then 22, then 11: those of 40 and more are six, a line of three words of two
+        EchoGorge x = Check.made("sound 90 0;" + walls + "mask 40 0 0;word 0 0;word 1 0 0;form 0;form 1 1 1;");
+        CHECK.due("0 answers by the six", x.line(12, 0, 0), 0);
+        // a share of 45 leaves 40, of 44 39
+        CHECK.due("lasts", x.lasts(12), 10);
+        CHECK.due("still", x.still(12, 10) * 10 + x.still(12, 11), 10);
+        CHECK.due("without one five are no line", x.without(12, 5), 0);
+        // the least as loud as the first returns: none lasts at all, and no fog is left out of the search
+        EchoGorge y = Check.made("sound 90 0;" + walls + "mask 45 0 0;word 0 0;word 1 0 0;form 0;form 1 1 1;");
+        CHECK.due("lasts not at all", y.lasts(12), 0);
     }
 
     private static void withoutEdges() {

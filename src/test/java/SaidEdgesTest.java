@@ -253,6 +253,10 @@ public final class SaidEdgesTest {
                 CHECK.due("one tick later", x.loud(0, 12, n * delay + 1, 0), delay < 40 && delay > 36 && n == 1 ? 40 : 0);
             }
         }
+        for (int tick : new int[] {320, 321, 399}) {
+            CHECK.due("behind all of them, at " + tick, x.heard(0, 12, tick), EchoGorge.NONE);
+            CHECK.due("as loud as nothing", x.loud(0, 12, tick, 1), 0);
+        }
         CHECK.due("straight", x.loud(0, 12, 0, 0), 80);
         CHECK.due("all six at ear 1", x.loud(1, 12, 27, 0), 60);
         CHECK.due("straight to ear 1", x.loud(1, 12, 3, 0), 80);
